@@ -607,23 +607,27 @@ public final class Cubecaller {
         }
 
         int parentOf(int member) {
-            return isPlain(member) ? parents[member] : NONE;
+            return has(member) && kinds[member] == PLAIN ? parents[member] : NONE;
         }
 
         int depthOf(int member) {
-            return isPlain(member) ? depths[member] : NONE;
+            return has(member) && kinds[member] == PLAIN ? depths[member] : NONE;
         }
 
         int orderOf(int member) {
-            return kindOf(member) == CALCULATED ? orders[member] : NONE;
+            return has(member) && kinds[member] == CALCULATED ? orders[member] : NONE;
+        }
+
+        Formula formulaOf(int member) {
+            return has(member) ? formulas[member] : null;
         }
 
         boolean isSeen(int member) {
-            return has(member) && seen[member];
+            return member >= 0 && member < count && seen[member];
         }
 
-        boolean standsFor(int bridge, int member) {
-            return kindOf(bridge) == BRIDGE && (bridged[bridge] >> member & 1) == 1;
+        private boolean standsFor(int bridge, int member) {
+            return kinds[bridge] == BRIDGE && (bridged[bridge] >> member & 1) == 1;
         }
 
         boolean areAllPlain(int members) {
@@ -752,13 +756,11 @@ public final class Cubecaller {
 
         /** The weight of a member in another one, 0 if it is not below that. */
         int weight(int row, int member, int over) {
-            int weight = below(row, member, over);
+            if (row < 0 || row > NOW || member < 0 || member >= count || over < 0 || over >= count) {
+                return 0;
+            }
+            int weight = weights[row][member * MOST_MEMBERS + over];
             return weight == APART ? 0 : weight;
-        }
-
-        private int below(int row, int member, int over) {
-            boolean known = row >= 0 && row <= NOW && isPlain(member) && has(over);
-            return known ? weights[row][member * MOST_MEMBERS + over] : APART;
         }
 
         void pickAll(int kind, int member) {
@@ -775,7 +777,10 @@ public final class Cubecaller {
             if (kind == CHILDREN) {
                 return parents[member] == asked;
             }
-            return kind == DEPTH ? depths[member] == asked : isLeaf(member) && below(NOW, member, asked) != APART;
+            if (kind == DEPTH) {
+                return depths[member] == asked;
+            }
+            return has(asked) && isLeaf(member) && weights[NOW][member * MOST_MEMBERS + asked] != APART;
         }
 
         private boolean isLeaf(int member) {
@@ -1073,6 +1078,7 @@ public final class Cubecaller {
         int counting;
         private final int[] rows = new int[MOST_FACTS];
         private final int[] weights = new int[MOST_FACTS];
+        private final int[] timePlaces = new int[MOST_FACTS];
         private final long[] topValues = new long[MOST_PICKED];
 
         Reckoner(Space space, Measures measures, FactRows facts) {
@@ -1106,9 +1112,7 @@ public final class Cubecaller {
         }
 
         private long formulaValue(int cell, int dimension, int depth) {
-            Dimension there = space.dimension(dimension);
-            int member = memberOf(cell, dimension);
-            Formula formula = there.has(member) ? there.formulas[member] : null;
+            Formula formula = space.dimension(dimension).formulaOf(memberOf(cell, dimension));
             if (formula == null) {
                 return MISSING;
             }
@@ -1116,8 +1120,12 @@ public final class Cubecaller {
             int top = base;
             for (int i = 0; i < formula.count; i++) {
                 int what = formula.whats[i];
-                if (what <= DATE) {
-                    piles[top] = single(formula, i, withMember(cell, dimension, formula.ones[i]), depth);
+                if (what == NUMBER) {
+                    piles[top] = formula.ones[i];
+                    top++;
+                } else if (what <= DATE) {
+                    int there = withMember(cell, dimension, formula.ones[i]);
+                    piles[top] = what == DATE ? toDate(there, depth) : back(there, formula.twos[i], depth);
                     top++;
                 } else if (top - base >= 2) {
                     top--;
@@ -1125,15 +1133,6 @@ public final class Cubecaller {
                 }
             }
             return top > base ? piles[base] : MISSING;
-        }
-
-        /** The value that a NUMBER, LOOK or DATE puts on the pile; there is the cell looked at. */
-        private long single(Formula formula, int word, int there, int depth) {
-            int what = formula.whats[word];
-            if (what == NUMBER) {
-                return formula.ones[word];
-            }
-            return what == DATE ? toDate(there, depth) : back(there, formula.twos[word], depth);
         }
 
         private long back(int there, int steps, int depth) {
@@ -1154,7 +1153,7 @@ public final class Cubecaller {
             long added = MISSING;
             for (int i = 0; i <= member; i++) {
                 if (space.time.isPlain(i) && space.time.parentOf(i) == parent) {
-                    added = joined(PLUS, added, valueOf(withMember(there, 0, i), depth + 1));
+                    added = plus(added, valueOf(withMember(there, 0, i), depth + 1), 1);
                 }
             }
             return added;
@@ -1162,20 +1161,22 @@ public final class Cubecaller {
 
         private static long joined(int what, long lower, long upper) {
             if (what == PLUS || what == MINUS) {
-                if (lower == MISSING && upper == MISSING) {
-                    return MISSING;
-                }
-                long first = lower == MISSING ? 0 : lower;
-                long second = upper == MISSING ? 0 : upper;
-                return bounded(what == PLUS ? first + second : first - second);
-            }
-            if (lower == MISSING || upper == MISSING) {
-                return MISSING;
+                return plus(lower, upper, what == PLUS ? 1 : -1);
             }
             return what == TIMES ? product(lower, upper) : ratio(lower, upper);
         }
 
+        private static long plus(long one, long two, int sign) {
+            if (one == MISSING && two == MISSING) {
+                return MISSING;
+            }
+            return bounded((one == MISSING ? 0 : one) + (two == MISSING ? 0 : sign * two));
+        }
+
         private static long product(long one, long two) {
+            if (one == MISSING || two == MISSING) {
+                return MISSING;
+            }
             if (one == 0 || two == 0) {
                 return 0;
             }
@@ -1201,7 +1202,8 @@ public final class Cubecaller {
             // Measures of a RATIO are lower: theirs are there when it is reckoned.
             for (int i = 0; i <= measure && i < MOST_MEASURES; i++) {
                 if (measures.needs(measure, i)) {
-                    byMeasure[i] = ofMeasure(cell, i);
+                    gather(cell, i);
+                    byMeasure[i] = ofGathered(i);
                 }
             }
             return measures.has(measure) ? byMeasure[measure] : MISSING;
@@ -1218,12 +1220,12 @@ public final class Cubecaller {
             return false;
         }
 
-        private long ofMeasure(int cell, int which) {
+        /** The value of a measure by the facts that were gathered, of a RATIO by its two measures. */
+        private long ofGathered(int which) {
             int kind = measures.kindOf(which);
             if (kind == RATIO) {
                 return ratio(byMeasure[measures.firsts[which]], byMeasure[measures.seconds[which]]);
             }
-            gather(cell, which);
             if (counting == 0) {
                 return MISSING;
             }
@@ -1241,6 +1243,7 @@ public final class Cubecaller {
                 if (weight != 0) {
                     rows[counting] = i;
                     weights[counting] = weight;
+                    timePlaces[counting] = space.order.placeOf(memberOf(facts.cellAt(i), 0));
                     counting++;
                 }
             }
@@ -1259,14 +1262,10 @@ public final class Cubecaller {
             return true;
         }
 
-        private int timePlaceAt(int place) {
-            return space.order.placeOf(memberOf(facts.cellAt(rowAt(place)), 0));
-        }
-
         private int lastPlace() {
             int last = NONE;
             for (int i = 0; i < counting; i++) {
-                last = Math.max(last, timePlaceAt(i));
+                last = Math.max(last, timePlaces[i]);
             }
             return last;
         }
@@ -1275,7 +1274,7 @@ public final class Cubecaller {
         private long sum(int timePlace) {
             long sum = 0;
             for (int i = 0; i < counting; i++) {
-                if (timePlace == NONE || timePlaceAt(i) == timePlace) {
+                if (timePlace == NONE || timePlaces[i] == timePlace) {
                     sum += (long) weights[i] * facts.numberAt(rows[i]);
                 }
             }
@@ -1303,7 +1302,8 @@ public final class Cubecaller {
             int ranked = 0;
             for (int i = 0; i < found && ranked < MOST_PICKED; i++) {
                 int member = there.pickedAt(i);
-                long value = asAsked(withMember(space.chosenCell(), dimension, member));
+                int cell = withMember(space.chosenCell(), dimension, member);
+                long value = space.isSeen(cell) ? valueOf(cell, 0) : MISSING;
                 if (value != MISSING) {
                     rank(there, ranked, member, value);
                     ranked++;
@@ -1365,6 +1365,9 @@ public final class Cubecaller {
         }
 
         private void equally() {
+            if (count <= 0) {
+                return;
+            }
             for (int i = 0; i < count; i++) {
                 shares[i] = number / count + (i < number % count ? 1 : 0);
             }
