@@ -641,11 +641,9 @@ public final class Cubecaller {
 
         int addPlain(int parent, int sign) {
             int member = addKind(PLAIN);
-            if (has(member) && has(parent)) {
+            if (has(member)) {
                 madeParents[member] = parent;
                 signs[member] = sign;
-                parents[member] = parent;
-                depths[member] = depths[parent] + 1;
             }
             return member;
         }

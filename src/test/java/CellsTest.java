@@ -171,6 +171,8 @@ public final class CellsTest {
         Check.due("no steps with a BRIDGE of time", x.cell(bridge, still, 0, 0), 4321);
         int twice = calculated(x, 1, 0, LOOK, one, 1);
         Check.due("1 back and 1 back", x.cell(6, twice, 0, 0), 20);
+        int piled = calculated(x, 1, 0, NUMBER, 50000, 0, LOOK, one, 1, PLUS, 0, 0);
+        Check.due("what is on the pile stays", x.cell(6, piled, 0, 0), 50020);
     }
 
     private static void lookBackInTime() {
@@ -201,6 +203,9 @@ public final class CellsTest {
         Check.due("of the depth 1", x.cell(4, date, 0, 0), 4321);
         Check.due("of the member 0", x.cell(0, date, 0, 0), 4321);
         Check.due("nothing below 7", x.cell(7, date, 0, 0), MISSING);
+        int inner = calculated(x, 1, 0, LOOK, 0, 0, NUMBER, 2, 0, TIMES, 0, 0);
+        int piled = calculated(x, 1, 0, NUMBER, 7, 0, DATE, inner, 0, PLUS, 0, 0);
+        Check.due("what is on the pile stays", x.cell(6, piled, 0, 0), 8607);
         x.forget(5, 0, 0, 0);
         Check.due("one is missing", x.cell(6, date, 0, 0), 4000);
         x.forget(6, 0, 0, 0);
@@ -276,6 +281,15 @@ public final class CellsTest {
         }
         Check.due("33 looks", x.cell(11, 11, 11, 0), 34);
         Check.due("again anew", x.cellAnew(11, 11, 11, 0), 34);
+        Cubecaller y = new Cubecaller();
+        y.measure(SUM, 0, 0);
+        y.fact(0, 0, 0, 0, 1);
+        for (int d = 1; d < 3; d++) {
+            for (int i = 1; i < 12; i++) {
+                calculated(y, d, i, NUMBER, 1, 0, DATE, i - 1, 0, PLUS, 0, 0);
+            }
+        }
+        Check.due("22 to date", y.cell(0, 11, 11, 0), 23);
     }
 
     /** Each member looks five times at the one below: without a memory that would never end. */
@@ -376,6 +390,31 @@ public final class CellsTest {
         Check.due("the fourth one too", x.hits(), 4);
         x.cell(0, 1, 0, 0);
         Check.due("the third one went", x.hits(), 4);
+        Cubecaller y = new Cubecaller();
+        y.measure(SUM, 0, 0);
+        y.member(0, 0, 1);
+        for (int i = 1; i < 12; i++) {
+            y.member(1, 0, 1);
+            y.fact(0, i, 0, 0, i);
+            y.fact(1, i, 0, 0, i * 100);
+        }
+        for (int i = 0; i < 22; i++) {
+            y.cell(i / 11, 1 + i % 11, 0, 0);
+        }
+        for (int i = 2; i < 22; i++) {
+            long want = i < 11 ? (i + 1) * 101 : (i - 10) * 100;
+            Check.due("each of the latest 20 has its own", y.cell(i / 11, 1 + i % 11, 0, 0), want);
+        }
+        Check.due("all were hits", y.hits(), 20);
+        y.fact(1, 5, 0, 0, 7);
+        Check.due("two are dropped among them", y.kept(), 18);
+        for (int i = 2; i < 22; i++) {
+            int one = 1 + i % 11;
+            if (one != 5) {
+                Check.due("the others still", y.cell(i / 11, one, 0, 0), i < 11 ? one * 101 : one * 100);
+            }
+        }
+        Check.due("all were hits again", y.hits(), 38);
     }
 
     /** Asks the cell and tells whether it was kept. */

@@ -160,6 +160,10 @@ public final class MembersTest {
         Check.due("five members", x.bridge(1, 2 + 4 + 8 + 16 + 32), 9);
         Check.due("a fact counts once", x.cell(0, 9, 0, 0), -5 + 70 + 100);
         Check.due("DIFFERENT over a bridge", x.cell(0, 9, 0, 1), 1);
+        x.fact(0, 0, 0, 0, 20000);
+        Check.due("the member 0 is below one that stands for it", x.cell(0, 8, 0, 0), 20000 - 5 + 70);
+        Check.due("and not below others", x.cell(0, 9, 0, 0), -5 + 70 + 100);
+        x.forget(0, 0, 0, 0);
         x.member(0, 0, 1);
         x.fact(1, 3, 0, 0, 1000);
         Check.due("a bridge of time", x.bridge(0, 2), 2);
@@ -189,6 +193,7 @@ public final class MembersTest {
         Check.refuses("bridge in the dimension 3", Check.INDEX, build, x -> x.bridge(3, 0));
         Check.refuses("bridge in the dimension -1", Check.INDEX, build, x -> x.bridge(-1, 1));
         Check.refuses("one that there is not", Check.INDEX, build, x -> x.bridge(1, 256));
+        Check.refuses("all that there can be", Check.INDEX, build, x -> x.bridge(1, 4095));
         Check.refuses("that ahead of too many", Check.INDEX, build, x -> x.bridge(1, 2048 + 63));
         Check.refuses("for nobody", Check.ARGUMENT, build, x -> x.bridge(1, 0));
         Check.refuses("4096", Check.ARGUMENT, build, x -> x.bridge(1, 4096));
@@ -318,6 +323,11 @@ public final class MembersTest {
         Check.due("2 as now", x.cell(0, 2, 0, 0), 1111);
         Check.due("it was as now", x.asNow(true), true);
         Check.due("it was as now still", x.asNow(false), true);
+        Cubecaller z = new Cubecaller();
+        z.measure(SUM, 0, 0);
+        z.fact(0, 0, 0, 0, 4);
+        z.asNow(true);
+        Check.due("as now, before anything was made", z.cell(0, 0, 0, 0), 4);
         Check.due("then again", x.cell(0, 2, 0, 0), 1100);
         Cubecaller y = new Cubecaller();
         moving(y);

@@ -50,11 +50,11 @@ public final class SetsTest {
         x.fact(2, 7, 1, 0, -5);
     }
 
-    /** All that was picked last in a dimension, one digit each. */
+    /** All that was picked last in a dimension, two digits each, 12 for the member 0. */
     private static long row(Cubecaller x, int dimension) {
         long row = 0;
         for (int i = 0; i < 12 && x.picked(dimension, i) != NONE; i++) {
-            row = row * 100 + x.picked(dimension, i);
+            row = row * 100 + (x.picked(dimension, i) == 0 ? 12 : x.picked(dimension, i));
         }
         return row;
     }
@@ -110,6 +110,8 @@ public final class SetsTest {
         y.member(1, 0, 0);
         y.pick(1, LEAVES, 0, 0, 0);
         Check.due("below with the sign 0", row(y, 1), 1);
+        y.pick(1, DEPTH, 0, 0, 0);
+        Check.due("the member 0 is picked by its depth", row(y, 1), 12);
     }
 
     private static void depth() {

@@ -226,6 +226,16 @@ public final class WritingTest {
             x.fact(0, 3, 0, 0, 5);
         };
         Check.refuses("a weight of -1", Check.STATE, minus, x -> x.write(0, 0, 0, 0, 1, 0));
+        Check.Act first = x -> {
+            minus.on(x);
+            x.forget(0, 1, 0, 0);
+            x.forget(0, 2, 0, 0);
+        };
+        Check.refuses("one of -1 alone", Check.STATE, first, x -> x.write(0, 0, 0, 0, 1, 0));
+        Check.refuses("the first of -1", Check.STATE, x -> {
+            first.on(x);
+            x.fact(0, 1, 0, 0, 1);
+        }, x -> x.write(0, 0, 0, 0, 1, 0));
         Check.Act fifty = x -> {
             fill(x, 1, 1, 1, 1, 1);
             for (int i = 5; i < 50; i++) {
@@ -288,6 +298,17 @@ public final class WritingTest {
         x.end(true);
         x.write(0, 0, 0, 0, 10, EQUAL);
         have("kept in the new order", x, 3, 4, 3);
+        Cubecaller y = with(1, 2, 3);
+        y.measure(SUM, 0, 0);
+        y.fact(0, 1, 0, 1, 40);
+        y.begin();
+        y.forget(0, 1, 0, 1);
+        y.forget(0, 1, 0, 0);
+        y.fact(0, 1, 0, 1, 70);
+        y.fact(0, 2, 0, 1, 80);
+        Check.due("four again", y.end(false), 4);
+        have("of the first measure", y, 1, 2, 3);
+        Check.due("of the second one", y.cell(0, 0, 0, 1), 40);
     }
 
     private static void sessionRefuses() {
