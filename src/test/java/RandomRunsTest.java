@@ -15,19 +15,24 @@ public final class RandomRunsTest {
     private final Model model = new Model();
     private final List<String> history = new ArrayList<>();
     private final Map<String, Integer> outcomes;
+    // 0 any, 1 numbers that are small and alike, 2 many formulas, 3 few members and many facts.
     private final int style;
+    private int formed;
+    private int height;
+    private int words;
     private String call;
     private LongSupplier asReal;
     private LongSupplier asModel;
 
     private RandomRunsTest(long seed, Map<String, Integer> outcomes) {
-        this.random = new Random(seed);
-        this.style = random.nextInt(4);
+        // Random gives near seeds the same first numbers.
+        this.random = new Random(seed * 0x9E3779B97F4A7C15L);
+        this.style = (int) (seed % 4);
         this.outcomes = outcomes;
     }
 
     public static void main(String[] args) {
-        int runs = args.length > 0 ? Integer.parseInt(args[0]) : 400;
+        int runs = args.length > 0 ? Integer.parseInt(args[0]) : 2000;
         long first = args.length > 1 ? Long.parseLong(args[1]) : 1;
         Map<String, Integer> outcomes = new TreeMap<>();
         for (long seed = first; seed < first + runs; seed++) {
@@ -50,6 +55,9 @@ public final class RandomRunsTest {
             history.add(call + " = " + want);
             String name = call.substring(0, call.indexOf('('));
             boolean number = want.matches("-?\\d+");
+            if (number) {
+                follow(name);
+            }
             outcomes.merge(name + " " + (number ? want.equals("" + Model.MISSING) ? "missing" : "answer" : want), 1, Integer::sum);
             if (!got.equals(want)) {
                 history.forEach(System.out::println);
@@ -58,6 +66,18 @@ public final class RandomRunsTest {
             }
         }
         return true;
+    }
+
+    /** Follows the pile of the draft, so that formulas come to an end. */
+    private void follow(String name) {
+        if (name.equals("calculate")) {
+            height = 0;
+            words = 0;
+            formed = random.nextInt(3);
+        } else if (name.equals("word")) {
+            words++;
+            height += call.matches("word\\([012],.*") ? 1 : -1;
+        }
     }
 
     private static String answer(LongSupplier call) {
@@ -124,9 +144,18 @@ public final class RandomRunsTest {
     }
 
     private void choose(int step) {
-        int what = random.nextInt(step < 40 ? 60 : 200);
+        int what = random.nextInt(step < (style == 3 ? 12 : 40) ? 60 : 200);
         if (step == 0 || step == 1) {
             what = 19;
+        } else if (style == 2 && step > 12 && step < 300 && random.nextInt(3) > 0) {
+            what = 20;
+            formed = isMember(formed, 11) ? random.nextInt(3) : formed;
+        } else if (style == 2 && what < 8 && step > 12) {
+            what = 140;
+        } else if (style == 3 && random.nextInt(3) == 0) {
+            what = 44 + random.nextInt(46);
+        } else if (style == 3 && what < 6 && step > 12) {
+            what = 130;
         }
         if (what < 14) {
             chooseMembers(what);
@@ -194,14 +223,19 @@ public final class RandomRunsTest {
     }
 
     private void chooseFormulas(int what) {
-        if (what < 38) {
-            int word = random.nextInt(40) == 0 ? range(0, 6) : random.nextInt(7);
-            int first = word == 0 ? random.nextInt(2) == 0 ? number() : range(-5, 5) : member(random.nextInt(3));
+        boolean ready = height == 1 && words > 1;
+        // A draft of ten words that leaves two on the pile would stay for ever.
+        boolean room = words + height < 10;
+        if (what == 20 ? !ready || room && random.nextInt(2) == 0 : what < 30) {
+            boolean push = room && (height < 2 || random.nextInt(2) == 0);
+            int word = random.nextInt(200) == 0 ? range(0, 6) : push ? (3 + random.nextInt(7)) / 4 : 3 + random.nextInt(4);
+            int of = random.nextInt(20) == 0 ? random.nextInt(3) : formed;
+            int first = word == 0 ? random.nextInt(2) == 0 ? number() : range(-5, 5) : member(of);
             int second = random.nextInt(3) == 0 ? 0 : random.nextInt(8) == 0 ? range(0, 11) : random.nextInt(3);
             set("word(" + word + ", " + first + ", " + second + ")",
                     () -> real.word(word, first, second), () -> model.word(word, first, second));
         } else {
-            int d = dimension();
+            int d = what == 20 ? formed : dimension();
             int order = random.nextInt(3) == 0 ? range(0, 100) : random.nextInt(3);
             set("calculate(" + d + ", " + order + ")", () -> real.calculate(d, order), () -> model.calculate(d, order));
         }
