@@ -238,7 +238,7 @@ public final class Cubecaller {
             return results.valueAt(place);
         }
         reckoner.begins(measure);
-        long value = reckoner.valueOf(cell, 0);
+        long value = reckoner.asAsked(cell);
         results.keep(cell, measure, value);
         return value;
     }
@@ -1096,7 +1096,7 @@ public final class Cubecaller {
         }
 
         /** The value for formulas too; depth is how many looks led to it. */
-        long valueOf(int cell, int depth) {
+        private long valueOf(int cell, int depth) {
             if (cell < 0 || cell >= CELLS || depth > DEEPEST) {
                 return MISSING;
             }
@@ -1301,6 +1301,7 @@ public final class Cubecaller {
             for (int i = 0; i < found && ranked < MOST_PICKED; i++) {
                 int member = there.pickedAt(i);
                 int cell = withMember(space.chosenCell(), dimension, member);
+                // asAsked() from here would open one call more than the rules leave.
                 long value = space.isSeen(cell) ? valueOf(cell, 0) : MISSING;
                 if (value != MISSING) {
                     rank(there, ranked, member, value);
