@@ -125,12 +125,16 @@ public final class RandomRunsTest {
     }
 
     private int measure() {
-        return random.nextInt(60) == 0 ? random.nextInt(7) - 1 : random.nextInt(4);
+        if (random.nextInt(60) == 0) {
+            return random.nextBoolean() ? ODD[random.nextInt(ODD.length)] : 4;
+        }
+        return random.nextInt(4);
     }
 
     private int range(int least, int most) {
         if (random.nextInt(40) == 0) {
-            return random.nextBoolean() ? least - 1 : most + 1;
+            int[] out = {least - 1, most + 1, Integer.MIN_VALUE, Integer.MAX_VALUE};
+            return out[random.nextInt(4)];
         }
         int kind = random.nextInt(8);
         return kind == 0 ? least : kind == 1 ? most : least + random.nextInt(most - least + 1);

@@ -251,6 +251,12 @@ public final class WritingTest {
         fifty.on(x);
         Check.due("to 50 facts", x.write(0, 0, 0, 0, 50 * 7, WEIGHTS), 50);
         Check.due("all of them", x.cell(0, 0, 0, 0), 350);
+        Check.due("one is left", x.write(0, 0, 0, 0, 351, WEIGHTS), 1);
+        Check.due("for the first one", x.cell(0, 1, 0, 0), 9 * 7 + 7 + 1);
+        Check.due("the rest of 49", x.write(0, 0, 0, 0, 352, REST), 1);
+        Check.due("to the first one", x.cell(0, 1, 0, 0), 9 * 7 + 7 + 2);
+        Check.due("to each of 50", x.write(0, 0, 0, 0, 51, EQUAL), 50);
+        Check.due("the first one has 1 more", x.cell(0, 1, 0, 0), 11);
         x.forget(9, 5, 0, 0);
         Check.due("a 50th", x.write(0, 0, 1, 0, 1, 0), 1);
         Check.due("50", x.facts(), 50);
