@@ -69,6 +69,7 @@ public final class CellsTest {
     }
 
     private static void plusAndMinus() {
+        Check.of("Terms: CALCULATED MEMBERS");
         Check.due("7 + 2", formula(PLUS, 1, 2), 9);
         Check.due("7 + missing", formula(PLUS, 1, 3), 7);
         Check.due("missing + 2", formula(PLUS, 3, 2), 2);
@@ -83,6 +84,7 @@ public final class CellsTest {
     }
 
     private static void timesAndPer() {
+        Check.of("Terms: CALCULATED MEMBERS");
         Check.due("7 * 2", formula(TIMES, 1, 2), 14);
         Check.due("7 * 0", formula(TIMES, 1, 4), 0);
         Check.due("0 * 7", formula(TIMES, 4, 1), 0);
@@ -101,6 +103,7 @@ public final class CellsTest {
     }
 
     private static void bounds() {
+        Check.of("Terms: CALCULATED MEMBERS");
         Cubecaller x = new Cubecaller();
         shop(x);
         int million = 1000000;
@@ -122,6 +125,7 @@ public final class CellsTest {
     }
 
     private static void boundsOfSums() {
+        Check.of("Terms: CALCULATED MEMBERS");
         Cubecaller x = new Cubecaller();
         x.measure(SUM, 0, 0);
         int most = 1000000;
@@ -151,6 +155,7 @@ public final class CellsTest {
     }
 
     private static void lookBack() {
+        Check.of("Terms: CALCULATED MEMBERS");
         Cubecaller x = new Cubecaller();
         years(x);
         int one = calculated(x, 1, 0, LOOK, 0, 1);
@@ -176,6 +181,7 @@ public final class CellsTest {
     }
 
     private static void lookBackInTime() {
+        Check.of("Terms: CALCULATED MEMBERS");
         Cubecaller x = new Cubecaller();
         years(x);
         int bridge = x.bridge(0, 4 + 8);
@@ -194,6 +200,7 @@ public final class CellsTest {
     }
 
     private static void toDate() {
+        Check.of("Terms: CALCULATED MEMBERS");
         Cubecaller x = new Cubecaller();
         years(x);
         int date = calculated(x, 1, 0, DATE, 0, 0);
@@ -219,6 +226,7 @@ public final class CellsTest {
     }
 
     private static void toDateInTime() {
+        Check.of("Terms: CALCULATED MEMBERS");
         Cubecaller x = new Cubecaller();
         years(x);
         int bridge = x.bridge(0, 4 + 8);
@@ -233,6 +241,7 @@ public final class CellsTest {
     }
 
     private static void toDateIsBounded() {
+        Check.of("Terms: CALCULATED MEMBERS");
         Cubecaller x = new Cubecaller();
         x.measure(SUM, 0, 0);
         for (int i = 0; i < 4; i++) {
@@ -249,6 +258,7 @@ public final class CellsTest {
     }
 
     private static void orders() {
+        Check.of("Terms: CALCULATED MEMBERS");
         Cubecaller x = new Cubecaller();
         x.measure(SUM, 0, 0);
         int time = calculated(x, 0, 5, NUMBER, 1, 0);
@@ -271,6 +281,7 @@ public final class CellsTest {
 
     /** As many looks in a row as there can be: 11 calculated members in each dimension. */
     private static void chain() {
+        Check.of("Terms: CALCULATED MEMBERS");
         Cubecaller x = new Cubecaller();
         x.measure(SUM, 0, 0);
         x.fact(0, 0, 0, 0, 1);
@@ -294,6 +305,7 @@ public final class CellsTest {
 
     /** Each member looks five times at the one below: without a memory that would never end. */
     private static void wideChain() {
+        Check.of("Terms: CALCULATED MEMBERS");
         Cubecaller x = new Cubecaller();
         x.measure(SUM, 0, 0);
         x.fact(0, 0, 0, 0, 1);
@@ -309,6 +321,7 @@ public final class CellsTest {
     }
 
     private static void ratioOfFormulas() {
+        Check.of("Terms: CALCULATED MEMBERS");
         Cubecaller x = new Cubecaller();
         x.measure(SUM, 0, 0);
         x.measure(SUM, 0, 0);
@@ -326,6 +339,7 @@ public final class CellsTest {
     }
 
     private static void refuses() {
+        Check.of("Promise 15: cell");
         Check.Act build = x -> {
             shop(x);
             x.cell(0, 1, 0, 0);
@@ -339,6 +353,7 @@ public final class CellsTest {
     }
 
     private static void keptAndHits() {
+        Check.of("Promise 18: hits");
         Cubecaller x = new Cubecaller();
         shop(x);
         Check.due("none at first", x.kept(), 0);
@@ -364,6 +379,7 @@ public final class CellsTest {
     }
 
     private static void latestTwenty() {
+        Check.of("Terms: KEPT RESULTS");
         Cubecaller x = new Cubecaller();
         x.measure(SUM, 0, 0);
         for (int i = 1; i < 12; i++) {
@@ -425,6 +441,7 @@ public final class CellsTest {
     }
 
     private static void droppedByFacts() {
+        Check.of("Terms: KEPT RESULTS");
         Cubecaller x = new Cubecaller();
         shop(x);
         x.cell(0, 0, 0, 0);
@@ -451,6 +468,7 @@ public final class CellsTest {
     }
 
     private static void notDropped() {
+        Check.of("Terms: KEPT RESULTS");
         Cubecaller x = new Cubecaller();
         shop(x);
         x.measure(SUM, 0, 0);
@@ -481,6 +499,7 @@ public final class CellsTest {
     }
 
     private static void droppedByLast() {
+        Check.of("Terms: KEPT RESULTS");
         Cubecaller x = new Cubecaller();
         x.measure(Cubecaller.LAST, 0, 0);
         x.member(0, 0, 1);
@@ -497,6 +516,7 @@ public final class CellsTest {
     }
 
     private static void droppedByRatio() {
+        Check.of("Terms: KEPT RESULTS");
         Cubecaller x = new Cubecaller();
         x.measure(SUM, 0, 0);
         x.measure(SUM, 0, 0);
@@ -518,6 +538,7 @@ public final class CellsTest {
     }
 
     private static void droppedCalculated() {
+        Check.of("Terms: KEPT RESULTS");
         Cubecaller x = new Cubecaller();
         shop(x);
         x.measure(SUM, 0, 0);
@@ -539,6 +560,7 @@ public final class CellsTest {
     }
 
     private static void droppedByAll() {
+        Check.of("Terms: KEPT RESULTS");
         Check.Act[] drops = {
             x -> x.member(2, 0, 1), x -> x.bridge(2, 1), x -> x.move(1, 2, 1, 0), x -> x.calculate(2, 0),
             x -> x.hide(1, 4, false), x -> x.asNow(false), x -> x.totals(false), x -> x.measure(SUM, 0, 0),
@@ -558,6 +580,7 @@ public final class CellsTest {
     }
 
     private static void droppedWhereNothingIsMeant() {
+        Check.of("Terms: KEPT RESULTS");
         Cubecaller x = new Cubecaller();
         shop(x);
         x.from(0, 1, 1);
@@ -569,6 +592,7 @@ public final class CellsTest {
     }
 
     private static void droppedBySeen() {
+        Check.of("Terms: KEPT RESULTS");
         Cubecaller x = new Cubecaller();
         shop(x);
         x.hide(1, 2, true);

@@ -23,6 +23,7 @@ public final class FactsTest {
     }
 
     private static void measure() {
+        Check.of("Promise 11: measure");
         Cubecaller x = new Cubecaller();
         Check.due("number of a measure", x.measure(SUM, -5, 99), 0);
         Check.due("for LAST the others do not matter", x.measure(LAST, 99, -1), 1);
@@ -51,6 +52,7 @@ public final class FactsTest {
     }
 
     private static void last() {
+        Check.of("Terms: FACTS, MEASURES");
         Cubecaller x = new Cubecaller();
         times(x);
         x.measure(LAST, 0, 0);
@@ -76,6 +78,7 @@ public final class FactsTest {
     }
 
     private static void different() {
+        Check.of("Terms: FACTS, MEASURES");
         Cubecaller x = new Cubecaller();
         times(x);
         x.measure(DIFFERENT, 0, 0);
@@ -94,6 +97,7 @@ public final class FactsTest {
     }
 
     private static void ratio() {
+        Check.of("Terms: FACTS, MEASURES");
         Cubecaller x = new Cubecaller();
         x.measure(SUM, 0, 0);
         x.measure(LAST, 0, 0);
@@ -122,6 +126,7 @@ public final class FactsTest {
     }
 
     private static void ratioBounds() {
+        Check.of("Terms: FACTS, MEASURES");
         Cubecaller x = new Cubecaller();
         x.measure(SUM, 0, 0);
         x.measure(SUM, 0, 0);
@@ -141,6 +146,7 @@ public final class FactsTest {
     }
 
     private static void measureRefuses() {
+        Check.of("Promise 11: measure");
         Check.Act none = x -> { };
         Check.Act two = x -> {
             x.measure(SUM, 0, 0);
@@ -164,6 +170,7 @@ public final class FactsTest {
     }
 
     private static void from() {
+        Check.of("Promise 12: from");
         Cubecaller x = new Cubecaller();
         times(x);
         x.measure(SUM, 0, 0);
@@ -199,6 +206,7 @@ public final class FactsTest {
     }
 
     private static void fromAndRatio() {
+        Check.of("Promise 12: from");
         Cubecaller x = new Cubecaller();
         times(x);
         x.measure(SUM, 0, 0);
@@ -217,6 +225,7 @@ public final class FactsTest {
     }
 
     private static void fromRefuses() {
+        Check.of("Promise 12: from");
         Check.Act one = x -> x.measure(SUM, 0, 0);
         Check.refuses("measure 1", Check.INDEX, one, x -> x.from(1, 0, 1));
         Check.refuses("measure -1", Check.INDEX, one, x -> x.from(-1, 0, 1));
@@ -227,6 +236,7 @@ public final class FactsTest {
     }
 
     private static void fact() {
+        Check.of("Promise 13: fact");
         Cubecaller x = new Cubecaller();
         times(x);
         x.measure(SUM, 0, 0);
@@ -262,6 +272,7 @@ public final class FactsTest {
     }
 
     private static void factRefuses() {
+        Check.of("Promise 13: fact");
         Check.Act build = x -> {
             times(x);
             x.measure(SUM, 0, 0);
@@ -294,6 +305,7 @@ public final class FactsTest {
     }
 
     private static void forget() {
+        Check.of("Promise 14: forget");
         Cubecaller x = new Cubecaller();
         times(x);
         x.measure(SUM, 0, 0);

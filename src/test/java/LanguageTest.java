@@ -12,6 +12,7 @@ public final class LanguageTest {
             Pattern.compile("^( {4}| {8})(public |private |static |final )*[\\w<>\\[\\]]+ (\\w+)\\(([^)]*)\\).*");
 
     public static void main(String[] args) throws Exception {
+        Check.of("LANGUAGE.md");
         List<String> lines = new ArrayList<>();
         for (String line : Files.readAllLines(CLASS)) {
             lines.add(line.replaceAll("\"[^\"]*\"", "\"\"").replaceAll("//.*|/\\*\\*.*", ""));

@@ -28,6 +28,7 @@ public final class MembersTest {
     }
 
     private static void constants() {
+        Check.of("Terms: the constants");
         int[] got = {Cubecaller.NONE, Cubecaller.PLAIN, Cubecaller.BRIDGE, Cubecaller.CALCULATED, Cubecaller.SUM,
             Cubecaller.LAST, Cubecaller.DIFFERENT, Cubecaller.RATIO, Cubecaller.NUMBER, Cubecaller.LOOK,
             Cubecaller.DATE, Cubecaller.PLUS, Cubecaller.MINUS, Cubecaller.TIMES, Cubecaller.PER, Cubecaller.EQUAL,
@@ -40,6 +41,7 @@ public final class MembersTest {
     }
 
     private static void newObject() {
+        Check.of("Promise 1: A new object");
         Cubecaller x = new Cubecaller();
         for (int d = 0; d < 3; d++) {
             Check.due("kind of the member 0", x.memberAt(d, 0, 0), Cubecaller.PLAIN);
@@ -62,6 +64,7 @@ public final class MembersTest {
     }
 
     private static void member() {
+        Check.of("Promise 2: member");
         Cubecaller x = new Cubecaller();
         for (int d = 0; d < 3; d++) {
             for (int i = 1; i < 12; i++) {
@@ -73,6 +76,7 @@ public final class MembersTest {
     }
 
     private static void memberRefuses() {
+        Check.of("Promise 2: member");
         Check.Act one = x -> {
             x.member(1, 0, 1);
             x.bridge(1, 2);
@@ -96,6 +100,7 @@ public final class MembersTest {
     }
 
     private static void orderOfTime() {
+        Check.of("Terms: MEMBERS");
         Cubecaller x = new Cubecaller();
         x.member(0, 0, 1);
         x.member(0, 0, 1);
@@ -114,6 +119,7 @@ public final class MembersTest {
     }
 
     private static void signs() {
+        Check.of("Terms: MEMBERS");
         Cubecaller x = new Cubecaller();
         x.measure(SUM, 0, 0);
         x.member(1, 0, -1);
@@ -138,6 +144,7 @@ public final class MembersTest {
     }
 
     private static void bridge() {
+        Check.of("Promise 3: bridge");
         Cubecaller x = new Cubecaller();
         x.measure(SUM, 0, 0);
         x.measure(Cubecaller.DIFFERENT, 0, 0);
@@ -179,6 +186,7 @@ public final class MembersTest {
     }
 
     private static void bridgeRefuses() {
+        Check.of("Promise 3: bridge");
         Check.Act build = x -> {
             for (int i = 1; i < 7; i++) {
                 x.member(1, 0, 1);
@@ -220,6 +228,7 @@ public final class MembersTest {
     }
 
     private static void move() {
+        Check.of("Promise 4: move");
         Cubecaller x = new Cubecaller();
         moving(x);
         Check.due("parent as now before", x.move(1, 3, 2, 2), 1);
@@ -246,6 +255,7 @@ public final class MembersTest {
     }
 
     private static void movesOfATime() {
+        Check.of("Terms: MEMBERS");
         Cubecaller x = new Cubecaller();
         moving(x);
         x.move(1, 3, 2, 2);
@@ -273,6 +283,7 @@ public final class MembersTest {
     }
 
     private static void moveRefuses() {
+        Check.of("Promise 4: move");
         Check.Act build = x -> {
             moving(x);
             x.bridge(0, 1);
@@ -314,6 +325,7 @@ public final class MembersTest {
     }
 
     private static void asNow() {
+        Check.of("Promise 5: asNow");
         Cubecaller x = new Cubecaller();
         moving(x);
         x.move(1, 3, 2, 2);
@@ -341,6 +353,7 @@ public final class MembersTest {
     }
 
     private static void memberAt() {
+        Check.of("Promise 6: memberAt");
         Cubecaller x = new Cubecaller();
         moving(x);
         x.bridge(1, 2 + 8);
@@ -376,6 +389,7 @@ public final class MembersTest {
     }
 
     private static void word() {
+        Check.of("Promise 7: word");
         Cubecaller x = new Cubecaller();
         Check.due("NUMBER", x.word(Cubecaller.NUMBER, 1000000, 99), 1);
         Check.due("LOOK", x.word(Cubecaller.LOOK, 11, 11), 2);
@@ -390,6 +404,7 @@ public final class MembersTest {
     }
 
     private static void wordRefuses() {
+        Check.of("Promise 7: word");
         Check.Act empty = x -> { };
         Check.Act one = x -> x.word(Cubecaller.NUMBER, 1, 0);
         Check.Act ten = x -> {
@@ -418,6 +433,7 @@ public final class MembersTest {
     }
 
     private static void calculate() {
+        Check.of("Promise 8: calculate");
         Cubecaller x = new Cubecaller();
         x.measure(SUM, 0, 0);
         x.member(1, 0, 1);
@@ -443,6 +459,7 @@ public final class MembersTest {
     }
 
     private static void calculateRefuses() {
+        Check.of("Promise 8: calculate");
         Check.Act one = x -> {
             x.member(1, 0, 1);
             x.word(Cubecaller.NUMBER, 1, 0);
@@ -484,6 +501,7 @@ public final class MembersTest {
     }
 
     private static void hide() {
+        Check.of("Promise 9: hide");
         Cubecaller x = new Cubecaller();
         moving(x);
         Check.due("it was not", x.hide(1, 1, true), false);
@@ -517,6 +535,7 @@ public final class MembersTest {
     }
 
     private static void totals() {
+        Check.of("Promise 10: totals");
         Cubecaller x = new Cubecaller();
         moving(x);
         x.fact(1, 2, 0, 0, 5);

@@ -60,6 +60,7 @@ public final class SetsTest {
     }
 
     private static void at() {
+        Check.of("Promise 19: at");
         Cubecaller x = new Cubecaller();
         tree(x);
         Check.due("0 at first", x.at(1, 8), 0);
@@ -72,6 +73,7 @@ public final class SetsTest {
     }
 
     private static void atRefuses() {
+        Check.of("Promise 19: at");
         Check.Act build = x -> {
             tree(x);
             x.at(1, 2);
@@ -83,6 +85,7 @@ public final class SetsTest {
     }
 
     private static void children() {
+        Check.of("Promise 20: pick");
         Cubecaller x = new Cubecaller();
         tree(x);
         Check.due("how many", x.pick(1, CHILDREN, 1, 0, 0), 3);
@@ -96,6 +99,7 @@ public final class SetsTest {
     }
 
     private static void leaves() {
+        Check.of("Promise 20: pick");
         Cubecaller x = new Cubecaller();
         tree(x);
         Check.due("all leaves", x.pick(1, LEAVES, 0, 0, 0), 4);
@@ -115,6 +119,7 @@ public final class SetsTest {
     }
 
     private static void depth() {
+        Check.of("Promise 20: pick");
         Cubecaller x = new Cubecaller();
         tree(x);
         Check.due("depth 2", x.pick(1, DEPTH, 2, 0, 0), 4);
@@ -127,6 +132,7 @@ public final class SetsTest {
     }
 
     private static void asNowAlone() {
+        Check.of("Promise 20: pick");
         Cubecaller x = new Cubecaller();
         tree(x);
         x.move(1, 7, 5, 2);
@@ -143,6 +149,7 @@ public final class SetsTest {
     }
 
     private static void seenAlone() {
+        Check.of("Promise 20: pick");
         Cubecaller x = new Cubecaller();
         tree(x);
         x.hide(1, 4, true);
@@ -159,6 +166,7 @@ public final class SetsTest {
     }
 
     private static void tops() {
+        Check.of("Promise 20: pick");
         Cubecaller x = new Cubecaller();
         tree(x);
         Check.due("top 2 of 3", x.pick(1, CHILDREN, 1, 0, 2), 2);
@@ -180,6 +188,7 @@ public final class SetsTest {
     }
 
     private static void topsOfOthers() {
+        Check.of("Promise 20: pick");
         Cubecaller x = new Cubecaller();
         tree(x);
         x.at(0, 2);
@@ -211,6 +220,7 @@ public final class SetsTest {
     }
 
     private static void pickKeepsNothing() {
+        Check.of("Promise 20: pick");
         Cubecaller x = new Cubecaller();
         tree(x);
         x.cell(0, 4, 0, 0);
@@ -222,6 +232,7 @@ public final class SetsTest {
     }
 
     private static void pickRefuses() {
+        Check.of("Promise 20: pick");
         Check.Act build = x -> {
             tree(x);
             x.pick(1, LEAVES, 0, 0, 0);
@@ -250,6 +261,7 @@ public final class SetsTest {
     }
 
     private static void picked() {
+        Check.of("Promise 21: picked");
         Cubecaller x = new Cubecaller();
         tree(x);
         Check.due("none at first", x.picked(1, 0), NONE);
@@ -274,6 +286,7 @@ public final class SetsTest {
     }
 
     private static void cross() {
+        Check.of("Promise 22: cross");
         Cubecaller x = new Cubecaller();
         tree(x);
         Check.due("nothing was picked", x.cross(0, 1, 0), 0);
@@ -301,6 +314,7 @@ public final class SetsTest {
     }
 
     private static void crossOfSeen() {
+        Check.of("Promise 22: cross");
         Cubecaller x = new Cubecaller();
         tree(x);
         x.pick(0, CHILDREN, 0, 0, 0);
@@ -313,6 +327,7 @@ public final class SetsTest {
     }
 
     private static void crossRefuses() {
+        Check.of("Promise 22: cross");
         Check.Act build = SetsTest::tree;
         Check.refuses("dimension 3", Check.INDEX, build, x -> x.cross(3, 3, 0));
         Check.refuses("dimension -1", Check.INDEX, build, x -> x.cross(-1, 0, 0));

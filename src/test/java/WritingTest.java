@@ -47,6 +47,7 @@ public final class WritingTest {
     }
 
     private static void equal() {
+        Check.of("Terms: WRITING, SESSIONS");
         Cubecaller x = with(1, 1, 1);
         Check.due("how many", x.write(0, 0, 0, 0, 11, EQUAL), 3);
         have("the first ones 1 more", x, 4, 4, 3);
@@ -63,6 +64,7 @@ public final class WritingTest {
     }
 
     private static void weights() {
+        Check.of("Terms: WRITING, SESSIONS");
         Cubecaller x = with(10, 30, 60);
         Check.due("how many", x.write(0, 0, 0, 0, 1000, WEIGHTS), 3);
         have("by weights", x, 100, 300, 600);
@@ -80,6 +82,7 @@ public final class WritingTest {
     }
 
     private static void weightsAsEqual() {
+        Check.of("Terms: WRITING, SESSIONS");
         Cubecaller x = with(0, 0);
         x.write(0, 0, 0, 0, 5, WEIGHTS);
         have("they add up to 0", x, 3, 2);
@@ -92,6 +95,7 @@ public final class WritingTest {
     }
 
     private static void rest() {
+        Check.of("Terms: WRITING, SESSIONS");
         Cubecaller x = with(10, 30, 60);
         Check.due("the first one alone", x.write(0, 0, 0, 0, 50, REST), 1);
         have("the number less all others", x, -40, 30, 60);
@@ -109,6 +113,7 @@ public final class WritingTest {
     }
 
     private static void orderOfFacts() {
+        Check.of("Terms: WRITING, SESSIONS");
         Cubecaller x = with(1, 1, 1);
         x.forget(0, 1, 0, 0);
         x.fact(0, 1, 0, 0, 1);
@@ -122,6 +127,7 @@ public final class WritingTest {
     }
 
     private static void made() {
+        Check.of("Terms: WRITING, SESSIONS");
         Cubecaller x = with(1);
         x.member(1, 1, 1);
         x.member(0, 0, 1);
@@ -138,6 +144,7 @@ public final class WritingTest {
     }
 
     private static void overBridges() {
+        Check.of("Terms: WRITING, SESSIONS");
         Cubecaller x = with(5, 6, 7);
         int bridge = x.bridge(1, 2 + 4);
         Check.due("over a BRIDGE", x.write(0, bridge, 0, 0, 21, EQUAL), 2);
@@ -155,6 +162,7 @@ public final class WritingTest {
     }
 
     private static void byThen() {
+        Check.of("Terms: WRITING, SESSIONS");
         Cubecaller x = with(1, 2, 3);
         x.member(0, 0, 1);
         x.member(1, 1, 1);
@@ -169,6 +177,7 @@ public final class WritingTest {
     }
 
     private static void leftOut() {
+        Check.of("Terms: WRITING, SESSIONS");
         Cubecaller x = with(1, 2, 3);
         x.hide(1, 2, true);
         Check.due("those not seen count", x.write(0, 0, 0, 0, 9, EQUAL), 2);
@@ -179,6 +188,7 @@ public final class WritingTest {
     }
 
     private static void whereNothingIsMeant() {
+        Check.of("Terms: WRITING, SESSIONS");
         Cubecaller x = with(1, 2, 3);
         x.from(0, 1, 1);
         Check.due("above a depth", x.write(0, 0, 0, 0, 9, EQUAL), 2);
@@ -187,6 +197,7 @@ public final class WritingTest {
     }
 
     private static void writeRefuses() {
+        Check.of("Promise 23: write");
         Check.Act build = x -> {
             fill(x, 10, 20);
             x.measure(Cubecaller.LAST, 0, 0);
@@ -263,6 +274,7 @@ public final class WritingTest {
     }
 
     private static void session() {
+        Check.of("Promise 25: end");
         Cubecaller x = with(1, 2, 3);
         x.begin();
         x.fact(0, 1, 0, 0, 100);
@@ -291,6 +303,7 @@ public final class WritingTest {
     }
 
     private static void sessionAndOrder() {
+        Check.of("Promise 25: end");
         Cubecaller x = with(1, 1, 1);
         x.begin();
         x.forget(0, 1, 0, 0);
@@ -318,6 +331,7 @@ public final class WritingTest {
     }
 
     private static void sessionRefuses() {
+        Check.of("Promise 24: begin");
         Check.Act begun = x -> {
             fill(x, 1, 2);
             x.begin();
@@ -342,6 +356,7 @@ public final class WritingTest {
     }
 
     private static void facts() {
+        Check.of("Promise 26: facts");
         Cubecaller x = with(1, 2, 3);
         Check.due("three", x.facts(), 3);
         x.fact(0, 1, 0, 0, 9);
