@@ -20,6 +20,7 @@ public final class FullTest {
         fiftyFactsCount();
         writeToFifty();
         sessionOfFifty();
+        sessionOfTwoMeasures();
         twentyKept();
         twentyKeptAndDropped();
         elevenPicked();
@@ -393,6 +394,28 @@ public final class FullTest {
         Check.due("in the order as it was", x.write(0, 0, 0, 0, 1, Cubecaller.EQUAL), 50);
         Check.due("0 was made first", x.cellAnew(1, 1, 0, 0), 1);
         Check.due("49 was made last", x.cellAnew(10, 5, 0, 0), 0);
+    }
+
+    private static void sessionOfTwoMeasures() {
+        Check.of("Terms: WRITING, SESSIONS");
+        Cubecaller x = new Cubecaller();
+        x.measure(SUM, 0, 0);
+        x.measure(SUM, 0, 0);
+        for (int i = 1; i < 6; i++) {
+            x.member(1, 0, 1);
+            x.member(2, 0, 1);
+        }
+        for (int i = 0; i < 50; i++) {
+            x.fact(0, 1 + i / 2 % 5, 1 + i / 10, i % 2, i + 1);
+        }
+        x.begin();
+        x.forget(0, 5, 5, 1);
+        x.fact(0, 5, 0, 0, 9);
+        Check.due("50 as they were", x.end(false), 50);
+        Check.due("the last one, of the other measure", x.cell(0, 5, 5, 1), 50);
+        Check.due("the one ahead of it", x.cell(0, 5, 5, 0), 49);
+        Check.due("all of the one", x.cell(0, 0, 0, 0), 625);
+        Check.due("all of the other", x.cell(0, 0, 0, 1), 650);
     }
 
     private static boolean hit(Cubecaller x, int one, int two) {

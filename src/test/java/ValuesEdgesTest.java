@@ -328,6 +328,12 @@ public final class ValuesEdgesTest {
         Check.due("1 - 2 - 4", x.cell(0, left, 0, 0), -5);
         Check.due("8 by 2, the lower by the upper one", x.cell(0, per, 0, 0), 4000);
         Check.due("five on the pile", x.cell(0, high, 0, 0), 1 - (20 - 54300));
+        int over = calculated(x, 1, 0, NUMBER, 3, 0, NUMBER, 4, 0, NUMBER, 5, 0, NUMBER, 6, 0, LOOK, high, 0,
+                PLUS, 0, 0, PLUS, 0, 0, PLUS, 0, 0, PLUS, 0, 0);
+        Check.due("four on the pile, then a look at five", x.cell(0, over, 0, 0), 18 + 1 - (20 - 54300));
+        int dated = calculated(x, 1, 0, NUMBER, 3, 0, NUMBER, 4, 0, NUMBER, 5, 0, NUMBER, 6, 0, DATE, over, 0,
+                PLUS, 0, 0, PLUS, 0, 0, PLUS, 0, 0, PLUS, 0, 0);
+        Check.due("four on the pile, then to date of that", x.cell(0, dated, 0, 0), 36 + 1 - (20 - 54300));
     }
 
     private static Cubecaller bounded() {
